@@ -12,6 +12,8 @@ public final class ModelTest {
         Integer.MAX_VALUE, Integer.MIN_VALUE};
 
     private static int chance = 7;
+    /** One of so many arguments is an edge. */
+    private static int tame = 25;
     private static List<Method> methods = new ArrayList<>();
 
     public static void main(String[] args) throws Exception {
@@ -43,6 +45,7 @@ public final class ModelTest {
         Model y = new Model();
         StringBuilder story = new StringBuilder();
         int calls = from(5, 60);
+        tame = any(8) == 0 ? 3 : 25;
         for (int k = 0; k < calls; k++) {
             if (k == 0 && any(10) > 0 || any(12) == 0) {
                 read(x, y, textOf(), "text", story);
@@ -100,7 +103,7 @@ public final class ModelTest {
 
     /** Mostly what the call takes, now and then an edge. */
     private static int argument(String name, int k) {
-        if (any(25) == 0) {
+        if (any(tame) == 0) {
             return EDGES[any(EDGES.length)];
         }
         switch (name) {
