@@ -79,22 +79,26 @@ public final class PaperTest {
     }
 
     private static void slackFar() {
-        // all CODES are 0 by WORTHS that round to 0: SUM 31 at most by STEP 64
+        // all CODES are 0: SUM is 15 at most by STEP 64
         HalvingMender x = Due.of("b1;b2;b4;b8;g64;");
         due.is("all is FORGIVEN", x.slack(3), 2000);
-        // a BIT 0 alone changes the CODE: below 1, 0 or 1; from WEIGHT 2000 on
+        // BIT 3 (2000) turned round at 1999 and below leaves BIT 2 without what it had
         HalvingMender y = Due.of("b1;b1;b2000;b2000;g64;");
-        // BIT 3 (2000): turned round from 2000 on up to 3999 BIT 2 makes it good; at 4000 not; below 2000 not
         due.is("2000 by 2000", y.slack(3), 0);
         HalvingMender z = Due.of("b1;b9999;b9999;b2:-1;g64;");
         due.is("its own CODE is no other", z.slack(3), 2000);
-        // from x = 1 up to 9998 and a bit it is all the same; SLACK ends at 2000 though
+        // at 50 BIT 0 (50) has only 49 left behind BIT 1, and 50 without it
         HalvingMender w = Due.of("b50;b1:0;g64;");
-        // BIT 1 (1): at 1: 1 is CODE 0; without it, too; up to 49 with or without BIT 0 is far; from 50 on BIT 0
-        // is 1 by both from 51 on; at 50 it is 0 (49 left) or 1
         due.is("up to 50", w.slack(1), 48);
         w.set(0, 7);
         due.is("by OFFSET the same", w.slack(1), 48);
+        // from its WEIGHT on BIT 1 counts 2015: with BIT 0 that is half a STEP more, which the CODE tells
+        HalvingMender last = Due.of("b1;b2015:-15;g64;");
+        due.is("1 and 1999 is the first that is not FORGIVEN", last.slack(0), 1998);
+        last.off(1, -14);
+        due.is("1 and 2000 is", last.slack(0), 1999);
+        last.off(1, -13);
+        due.is("1 and 2001 is", last.slack(0), 2000);
     }
 
     private static void tightest() {
@@ -158,12 +162,12 @@ public final class PaperTest {
         due.is("the first", x.histogram(0, 5, 1, 9), 4);
         due.is("the greatest", x.histogram(0, 5, 1, 8), 40);
         due.is("OFF BY", x.histogram(0, 5, 1, 3), 35);
-        // STUCK at 0 and heavy WEIGHTS: 3 of BIT 1 and 0; 4 is 3 and 1
         HalvingMender y = Due.of("b1;b9:-7;b3;");
         // WEIGHTS 1, 2, 3: 2 is 9, 3 is 3: a FALL; 5 is 12, 6 is 13; 4 is 4
         due.is("FALLS", y.histogram(0, 6, 1, 2), 1);
         due.is("FALLS by 2: 0, 9, 4, 13", y.histogram(0, 6, 2, 2), 1);
         due.is("no FALL at the first", y.histogram(3, 6, 1, 2), 0);
+        due.is("a FALL at the second", y.histogram(2, 3, 1, 2), 1);
         HalvingMender by = Due.of("b1;b2;b4;b8;g4;");
         // 0 1 | 2 .. 5 | 6 .. 9 | 10 .. 13 | 14 15
         all(by, "by STEP", 0, 15, 1, 5, 0, 0, 2, 2, 1, 4, 0, 4, -1);
