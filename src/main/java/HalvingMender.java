@@ -784,7 +784,7 @@ public final class HalvingMender {
             return peek() >= '0' && peek() <= '9';
         }
 
-        /** A number of 1 to 4 digits. */
+        /** A number of 1 to 4 digits; a fifth is blamed here, for such a number has no end that could be asked. */
         int number() {
             if (!isAtDigit()) {
                 blame(at);
@@ -794,6 +794,9 @@ public final class HalvingMender {
             for (int n = 0; n < 4 && isAtDigit(); n++) {
                 value = value * 10 + peek() - '0';
                 at++;
+            }
+            if (isAtDigit()) {
+                blame(at);
             }
             return value;
         }

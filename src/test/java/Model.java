@@ -384,10 +384,10 @@ public final class Model {
             boolean whole = m.lookingAt();
             int stops = whole ? m.end() : goesOn(ITEM, text, at);
             String part = text.substring(at, stops);
-            // each number that is at its end is asked, the last one too if what is behind it is wrong
+            // each number that is at its end is asked, the last one too if what is behind it is wrong, but for a digit
             Matcher number = Pattern.compile("-?[0-9]+").matcher(part);
             boolean size = true;
-            while (number.find()) {
+            while (number.find() && !text.substring(at + number.end()).matches("(?s)[0-9].*")) {
                 int v = Integer.parseInt(number.group());
                 boolean fits = c != 'b' ? mayBe("odrng".indexOf(c), v) : size ? v > 0 : in(v, -99, 99);
                 if (!fits) {

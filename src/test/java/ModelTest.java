@@ -173,7 +173,7 @@ public final class ModelTest {
         }
     }
 
-    // ---- texts: mostly well, some with a byte spoilt, lost or doubled ----
+    // ---- texts: mostly well, some with a byte spoilt, lost or many times over ----
 
     private static String spoilt(String text) {
         if (any(4) > 0 || text.isEmpty()) {
@@ -181,9 +181,12 @@ public final class ModelTest {
         }
         int at = any(text.length());
         String signs = "b1;:-odrng0,9c=lphsfx([<?])+*i5";
-        switch (any(4)) {
+        switch (any(5)) {
             case 0:
                 return text.substring(0, at);
+            case 4:
+                // a digit many times over makes numbers that are too long
+                return text.substring(0, at) + text.substring(at, at + 1).repeat(from(2, 5)) + text.substring(at + 1);
             case 1:
                 return text.substring(0, at) + text.substring(at + 1);
             case 2:

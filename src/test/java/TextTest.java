@@ -8,6 +8,7 @@ public final class TextTest {
         whatStaysAndWhatNot();
         faultLeavesAll();
         faults();
+        fifthDigits();
         severalOfOneKind();
         faultOfTheLatest();
         due.end();
@@ -94,8 +95,23 @@ public final class TextTest {
         int[] places = {0, 3, 1, 2, 4, 1, 1, 5, 3, 4, 4, 0,
             5, 5, 3, 5, 14, 2, 1, 1, 1, 2, 2,
             1, 1, 1, 1, 1, 1, 1, 1, 1, 0, 6, 2, 0, 0,
-            0, 3, 5, 6, 1, 1, 1, 8, 4, 3, 5,
-            7, 1};
+            0, 3, 5, 6, 1, 1, 5, 8, 4, 3, 5,
+            11, 1};
+        HalvingMender x = Due.of("b1;b2;");
+        for (int n = 0; n < texts.length; n++) {
+            due.is("text '" + texts[n] + "'", Due.text(x, texts[n]), -1);
+            due.is("FAULT of '" + texts[n] + "'", x.fault(), places[n]);
+        }
+    }
+
+    /** A number is asked whether it is as told when it has ended; a fifth digit is a FAULT ahead of that. */
+    private static void fifthDigits() {
+        String[] texts = {"b3;b2;g651234", "b3;b2;g651234\0\0\0", "b00001;", "b00000", "b1:99999;", "b1:-99999", "b200:-09999;",
+            "b1:100000;", "o-12345;", "o00001;", "d00005;", "d12345", "r00003;", "r99999x", "n00001;", "n654321", "g00001;",
+            "b1;b2;b3:-00009;", "b0000", "b0000;", "b0000x", "b0000:11111;", "b1:0100", "o-0100;", "d0051", "g0000-"};
+        int[] places = {11, 11, 5, 5, 7, 8, 10,
+            7, 6, 5, 5, 5, 5, 5, 5, 5, 5,
+            14, 1, 1, 1, 1, 3, 1, 1, 1};
         HalvingMender x = Due.of("b1;b2;");
         for (int n = 0; n < texts.length; n++) {
             due.is("text '" + texts[n] + "'", Due.text(x, texts[n]), -1);
