@@ -9,7 +9,8 @@ final class Calls {
     private Calls() {
     }
 
-    static long ask(HalvingMender x, String call) {
+    /** Asks a HalvingMender, or a Model. */
+    static long ask(Object x, String call) {
         String name = call.substring(0, call.indexOf('('));
         String inside = call.substring(call.indexOf('(') + 1, call.length() - 1);
         String[] words = inside.isEmpty() ? new String[0] : inside.split(", *");
@@ -17,7 +18,7 @@ final class Calls {
         for (int k = 0; k < words.length; k++) {
             args[k] = number(words[k]);
         }
-        for (Method m : HalvingMender.class.getMethods()) {
+        for (Method m : x.getClass().getMethods()) {
             if (m.getName().equals(name) && m.getParameterCount() == args.length) {
                 return told(x, m, args);
             }
@@ -36,7 +37,7 @@ final class Calls {
         }
     }
 
-    private static long told(HalvingMender x, Method m, Object[] args) {
+    private static long told(Object x, Method m, Object[] args) {
         try {
             Object told = m.invoke(x, args);
             return told instanceof Boolean ? ((Boolean) told ? 1 : 0) : ((Integer) told).longValue();

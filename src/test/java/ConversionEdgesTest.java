@@ -12,6 +12,7 @@ public final class ConversionEdgesTest {
         codeIsCutDown();
         farAway();
         nothingYet();
+        howManyLate();
         latestAlone();
         written();
         mean();
@@ -233,6 +234,21 @@ public final class ConversionEdgesTest {
                 x.back(0);
             }
         }
+    }
+
+    /** From none to all; each CONVERSION counts its own. */
+    private static void howManyLate() {
+        HalvingMender x = Due.of("b1;b5;b300;d10;");
+        int[] xs = {300, 305, 309, 310, 314, 315, 316, 320, 291, 290, -4, -5, -8, -9, 300, 320};
+        int[] lates = {3, 3, 3, 2, 2, 1, 0, 0, 1, 0, 2, 1, 1, 0, 3, 0};
+        for (int n = 0; n < xs.length; n++) {
+            x.convert(xs[n]);
+            due.is("LATE of " + xs[n], x.converted(3), lates[n]);
+            due.is("LATE by each BIT", x.decision(0, 1) + x.decision(1, 1) + x.decision(2, 1), lates[n]);
+        }
+        x.set(1, 0);
+        x.convert(300);
+        due.is("BAND 0: none", x.converted(3), 0);
     }
 
     private static void latestAlone() {

@@ -15,6 +15,7 @@ public final class CrowdEdgesTest {
         crowdByK();
         crowdByWeight();
         crowdFromTo();
+        crowdIsAside();
         crowdOthers();
         due.end();
     }
@@ -111,7 +112,8 @@ public final class CrowdEdgesTest {
                     while (least <= 100 && reach(n, least) < reach) {
                         least++;
                     }
-                    due.is("loosest(" + n + ", " + reach + ")", x.loosest(n, reach), reach > 4095 || least > 100 ? -1 : least);
+                    int told = reach > 4095 || least > 100 ? -1 : least;
+                    due.is("loosest(" + n + ", " + reach + ")", x.loosest(n, reach), told);
                 }
             }
             due.is("R 1", x.loosest(n, 1), 0);
@@ -172,7 +174,8 @@ public final class CrowdEdgesTest {
 
     /** OFFS of p 0, 1, 98 and 99, down to a WEIGHT of 1; each is put together in another object by the same DRAWS. */
     private static void crowdByP() {
-        String[] texts = {"b1;b2;b3;b6;b11;o2;", "b100;b100;b180;b330;b600;g50;", "b120;b130;b140;b150;b220;b440;o-9;g64;"};
+        String[] texts = {"b1;b2;b3;b6;b11;o2;", "b100;b100;b180;b330;b600;g50;",
+            "b120;b130;b140;b150;b220;b440;o-9;g64;"};
         boolean least = false;
         boolean most = false;
         boolean held = false;
@@ -203,8 +206,8 @@ public final class CrowdEdgesTest {
                         count[2] += behind && !ahead ? 1 : 0;
                     }
                     for (int what = 0; what < 3; what++) {
-                        due.is(text + " crowd(" + seed + ", 20, " + p + ", 2, " + what + ")", x.crowd(seed, 20, p, 2, what),
-                            count[what]);
+                        String call = "crowd(" + seed + ", 20, " + p + ", 2, " + what + ")";
+                        due.is(text + " " + call, Calls.ask(x, call), count[what]);
                         among[what] |= count[what] > 0;
                     }
                     due.is("X is aside", x.is(6), 1);
@@ -230,7 +233,7 @@ public final class CrowdEdgesTest {
         due.is("2000", Due.of("b1;b1999;").crowd(1, 1, 0, 1, 1), -1);
         due.is("3999 by 2", Due.of("b1;b3998;g2;").crowd(1, 1, 0, 1, 1), 1);
         due.is("4000 by 2", Due.of("b1;b3999;g2;").crowd(1, 1, 0, 1, 1), -1);
-        due.is("1999 by 60, cut: more than 100000 together", Due.of("b9999;".repeat(12) + "g60;").crowd(1, 1, 0, 1, 0), 0);
+        due.is("1999 by 60, cut, of more than 100000", Due.of("b9999;".repeat(12) + "g60;").crowd(1, 1, 0, 1, 0), 0);
         due.is("2033 by 59", Due.of("b9999;".repeat(12) + "g59;").crowd(1, 1, 0, 1, 0), -1);
         HalvingMender x = Due.of("b1;b1998;");
         x.off(1, 99);
@@ -250,13 +253,34 @@ public final class CrowdEdgesTest {
         due.is("30 is reached at 35", Due.of("b1;b1;b2;b30;g5;o-5;").crowd(1, 1, 0, 4, 0), 1);
     }
 
+    /** ON PAPER, nothing STUCK, nothing OFF by p 0, nothing learnt ahead: only OFFSET and STEP are as here. */
+    private static void crowdIsAside() {
+        String[] calls = {"set(3, 20)", "set(1, 50)", "stick(0, 0)", "stick(2, 1)", "off(2, 9)", "learn(1, 8)", "seed(9)",
+            "heat(9)"};
+        for (int rule = 0; rule <= 3; rule++) {
+            HalvingMender x = Due.of("b1;b2;b4;b8;");
+            HalvingMender y = Due.of("b1;b1;b8;");
+            x.set(2, rule);
+            y.set(2, rule);
+            for (String call : calls) {
+                Calls.ask(x, call);
+                Calls.ask(y, call);
+                due.is("all ahead, behind " + call, x.crowd(1, 20, 0, 1, 0), 20);
+                due.is("all behind, behind " + call, x.crowd(1, 20, 0, 1, 1), 20);
+                due.is("none ahead, behind " + call, y.crowd(1, 20, 0, 2, 0), 0);
+                due.is("all behind alone, behind " + call, y.crowd(1, 20, 0, 2, 2), 20);
+            }
+        }
+    }
+
     private static void crowdOthers() {
         HalvingMender x = Due.of("b1;b2;b4;");
         int[][] others = {{0, 0, 1, 0}, {21, 0, 1, 0}, {MIN, 0, 1, 0}, {MAX, 0, 1, 0}, {1, -1, 1, 0}, {1, 100, 1, 0},
             {1, MIN, 1, 0}, {1, MAX, 1, 0}, {1, 0, 0, 0}, {1, 0, 4, 0}, {1, 0, MIN, 0}, {1, 0, MAX, 0}, {1, 0, 1, -1},
             {1, 0, 1, 3}, {1, 0, 1, MIN}, {1, 0, 1, MAX}};
         for (int[] o : others) {
-            due.is("crowd(1, " + o[0] + ", " + o[1] + ", " + o[2] + ", " + o[3] + ")", x.crowd(1, o[0], o[1], o[2], o[3]), -1);
+            String call = "crowd(1, " + o[0] + ", " + o[1] + ", " + o[2] + ", " + o[3] + ")";
+            due.is(call, Calls.ask(x, call), -1);
         }
         due.is("no BITS", new HalvingMender().crowd(1, 1, 0, 1, 0), -1);
     }

@@ -25,6 +25,7 @@ public final class HourEdgesTest {
         dueByHours();
         dueByB();
         planByHours();
+        planIsAside();
         planByWeight();
         due.end();
     }
@@ -178,14 +179,15 @@ public final class HourEdgesTest {
     }
 
     private static void firstByteThatStops() {
-        for (String ahead : new String[] {"", "i+", "i-", "i*", "i/", "i%", "-", "--", "(", "((", "(-", "[", "[(", "[i<", "[i=",
-            "[i<i?", "[i=i?", "[i<i?i:", "i+(i*", "[i<i?i:i]%"}) {
+        for (String ahead : new String[] {"", "i+", "i-", "i*", "i/", "i%", "-", "--", "(", "((", "(-", "[", "[(", "[i<",
+            "[i=", "[i<i?", "[i=i?", "[i<i?i:", "i+(i*", "[i<i?i:i]%"}) {
             stopsAlone(ahead, THING);
         }
         String digits = "0123456789";
         stopsAlone("1", digits + SIGNS);
         stopsAlone("123", digits + SIGNS);
-        for (String ahead : new String[] {"1234", "i", "s", "w", "h", "t", "-i", "(i)", "-(i)", "[i<i?i:i]", "i+i", "[(i)=i?i:i]"}) {
+        for (String ahead : new String[] {"1234", "i", "s", "w", "h", "t", "-i", "(i)", "-(i)", "[i<i?i:i]", "i+i",
+            "[(i)=i?i:i]"}) {
             stopsAlone(ahead, SIGNS);
         }
         stopsAlone("(i", SIGNS + ")");
@@ -422,6 +424,26 @@ public final class HourEdgesTest {
             due.is("others", x.plan(o[0], o[1], o[2]), -1);
         }
         due.is("k 1", x.plan(1, 1, 0), 1);
+    }
+
+    /** ON PAPER: neither NOISE nor BAND and RULE; all else as it is, and stays so. */
+    private static void planIsAside() {
+        for (int rule = 0; rule <= 3; rule++) {
+            HalvingMender x = Due.of("b1;b2;b4;b8;d50;n20;r" + rule + ";");
+            Due.drift(x, "[i=3?[w<5?0:-1]:0]");
+            // BIT 3 is 8, 7, 6, 5, 4, 4, ..: each time it is learnt once, and whole
+            due.is("how often", x.plan(3, 40, 0), 4);
+            due.is("first", x.plan(3, 40, 1), 1);
+            due.is("in vain", x.plan(3, 40, 2), 0);
+            due.is("X is aside", x.is(6), 1);
+            due.is("HOUR is aside", x.is(12), 0);
+            due.is("OFF is aside", x.bit(3, 1), 0);
+            due.is("WORTH is aside", x.bit(3, 2), 8);
+            due.is("NOISE as it was", x.is(4), 20);
+            due.is("RULE as it was", x.is(3), rule);
+            due.is("DUE is ON PAPER, too", x.due(0, 15), 1);
+            due.is("X is aside", x.is(6), 1);
+        }
     }
 
     private static void planByWeight() {

@@ -171,7 +171,7 @@ public final class PaperEdgesTest {
         due.is("x -100001", x.forgiven(-100001, 0), -1);
     }
 
-    /** BIT 1 is learnt by BIT 0 alone, so worth the same; above it fails from a WEIGHT of BIT 0 on, below by what is 1 less. */
+    /** BIT 1 is learnt by BIT 0 alone, so worth the same: that fails where BIT 0 is 1 beside it, or 0 without it. */
     private static int slackOf(int below, int weight, int offset) {
         HalvingMender x = Due.of("b" + below + ";b" + weight + ";o" + offset + ";");
         x.learn(1, 1);
@@ -258,9 +258,10 @@ public final class PaperEdgesTest {
             due.is("x from " + span, together, xs[n]);
             due.is("histogram from " + span, x.histogram(s[0], s[1], s[2], 0) > 0, true);
         }
-        int[][] others = {{-100001, -100001, 1}, {-100001, -100000, 1}, {100001, 100001, 1}, {100000, 100001, 1}, {1, 0, 1},
-            {0, 0, 0}, {0, 0, -1}, {0, 0, MIN}, {0, 2000, 1}, {-100000, -98000, 1}, {0, 4000, 2}, {-100000, 100000, 100},
-            {MIN, MIN, 1}, {MAX, MAX, 1}, {MIN, MAX, 1}, {MIN, MAX, MAX}, {MAX, MIN, 1}, {-100000, MAX, MAX}, {MIN, 100000, MAX}};
+        int[][] others = {{-100001, -100001, 1}, {-100001, -100000, 1}, {100001, 100001, 1}, {100000, 100001, 1},
+            {1, 0, 1}, {0, 0, 0}, {0, 0, -1}, {0, 0, MIN}, {0, 2000, 1}, {-100000, -98000, 1}, {0, 4000, 2},
+            {-100000, 100000, 100}, {MIN, MIN, 1}, {MAX, MAX, 1}, {MIN, MAX, 1}, {MIN, MAX, MAX}, {MAX, MIN, 1},
+            {-100000, MAX, MAX}, {MIN, 100000, MAX}};
         for (int[] s : others) {
             String span = s[0] + " up to " + s[1] + " by " + s[2];
             due.is("histogram from " + span, x.histogram(s[0], s[1], s[2], 0), -1000000);
@@ -387,6 +388,13 @@ public final class PaperEdgesTest {
         due.is("two sums", y.sums(0), 2);
         due.is("of like ones the least", y.sums(2), 0);
         due.is("the least that is none", y.sums(3), 1);
+        HalvingMender full = Due.of("b1;b2;b4;b8;b16;b32;b64;b128;b256;b512;b1024;b2048;");
+        due.is("4096 sums", full.sums(0), 4096);
+        due.is("once each", full.sums(1), 1);
+        due.is("the least", full.sums(2), 0);
+        due.is("none is left out", full.sums(3), -1);
+        due.is("all BITS", full.ways(4095), 1);
+        due.is("more than all", full.ways(4096), 0);
         HalvingMender z = Due.of("b1;b1;");
         due.is("0, 1, 2", z.sums(0), 3);
         due.is("none is left out", z.sums(3), -1);
@@ -415,6 +423,11 @@ public final class PaperEdgesTest {
         y.off(0, 1);
         due.is("BIT 0 above 0 and 1", y.gap(0), 1);
         due.is("BIT 0", y.gap(1), 0);
+        HalvingMender full = Due.of("b1;b1;b1;b1;b1;b1;b1;b1;b1;b1;b1;b9999:99;");
+        due.is("the last of twelve", full.gap(1), 11);
+        due.is("by", full.gap(0), 10098 - 11 - 1);
+        Due.text(full, "b1;b1;b1;b1;b1;b1;b1;b1;b1;b1;b1;");
+        due.is("one that is no BIT any more", full.gap(1), -1);
         HalvingMender z = Due.of("b9999:99;b9999;");
         due.is("the widest", z.gap(0), 10097);
         due.is("what -1", z.gap(-1), -2);

@@ -79,7 +79,7 @@ public final class TextEdgesTest {
     }
 
     private static void sizes() {
-        for (String item : new String[] {"b1;", "b9999;", "b0001;", "b0009;", "b10;", "b100;", "b1000;", "b9;", "b09;"}) {
+        for (String item : new String[] {"b1;", "b9999;", "b0001;", "b0009;", "b10;", "b100;", "b1000;", "b09;"}) {
             well(item);
         }
         wrong("b0;", 1);
@@ -218,12 +218,19 @@ public final class TextEdgesTest {
         String[] items = {"o-9;", "d9;", "r1;", "n9;", "g9;"};
         int[] set = {-9, 9, 1, 9, 9};
         int[] first = {0, 0, 3, 0, 1};
-        for (int without = 0; without < 5; without++) {
+        boolean again = false;
+        for (int without : new int[] {0, 0, 1, 1, 2, 2, 3, 3, 4, 4}) {
             HalvingMender x = new HalvingMender();
             StringBuilder text = new StringBuilder("b1;b2;");
             for (int k = 0; k < 5; k++) {
                 x.set(k, set[k] < 0 ? 7 : k == 2 ? 2 : 7);
                 text.append(k == without ? "" : items[k]);
+            }
+            again = !again;
+            if (again) {
+                // a text ahead that tells all, or is a FAULT, is nothing for the next one
+                Due.text(x, "b1;b2;o-8;d8;r0;n8;g8;");
+                Due.text(x, "b1;b2;o-8;d8;r0;n8;g8;b0;");
             }
             due.is("text", Due.text(x, text.toString()), 2);
             for (int k = 0; k < 5; k++) {
@@ -237,7 +244,8 @@ public final class TextEdgesTest {
         String letters = "odrng";
         for (int k = 0; k < 5; k++) {
             String item = letters.charAt(k) + "1;";
-            for (String behind : new String[] {item, letters.substring(k, k + 1), letters.charAt(k) + "x", item + "b2;b3;"}) {
+            String letter = letters.substring(k, k + 1);
+            for (String behind : new String[] {item, letter, letter + "x", item + "b2;b3;"}) {
                 HalvingMender x = new HalvingMender();
                 due.is("twice", Due.text(x, item + "b1;b2;" + behind), -1);
                 due.is("FAULT of a second " + behind, x.fault(), 9);
