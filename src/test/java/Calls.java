@@ -33,7 +33,7 @@ final class Calls {
             case "MAX":
                 return Integer.MAX_VALUE;
             default:
-                return Integer.parseInt(word);
+                return Integer.decode(word);
         }
     }
 
